@@ -449,19 +449,16 @@ public final class CopperTies {
     }
 
     public int earth() {
-        int most = NONE;
-        int first = NONE;
-        for (int house = 0; house < belt.houses; house++) {
-            int before = belt.bears[house];
-            belt.bears[house] = belt.bearsEarthed(house);
-            int borne = greatestBorne();
-            belt.bears[house] = before;
-            if (borne > most) {
-                most = borne;
-                first = house;
+        // houses that, EARTHED, make all stand so far: who is left last makes STANDS greatest
+        int left = (1 << belt.houses) - 1;
+        for (int v = belt.leastBorne() + 1; v <= STROKE_MOST && left != 0; v++) {
+            int standing = laws.readBears() ? standingAfresh(left, v) : standingAlike(left, v);
+            if (standing == 0) {
+                break;
             }
+            left = standing;
         }
-        return first;
+        return lowest(left);
     }
 
     // ---- houses and wires
@@ -755,6 +752,48 @@ public final class CopperTies {
         return NONE;
     }
 
+    /** Those of the houses that, EARTHED, let nobody BURN by v: the same strokes for all of them. */
+    private int standingAlike(int houses, int v) {
+        int live = belt.live();
+        int standing = houses;
+        for (int struck = 0; struck < belt.houses && standing != 0; struck++) {
+            int burns = storm.fall(live, struck, v);
+            for (int h = 0; h < belt.houses && burns != 0; h++) {
+                if (burns != 1 << h || storm.kept[h] > belt.bearsEarthed(h)) {
+                    standing &= ~(1 << h);
+                }
+            }
+        }
+        return standing;
+    }
+
+    /** As standingAlike, where the LAW that holds reads what a house BEARS: strokes go otherwise. */
+    private int standingAfresh(int houses, int v) {
+        int live = belt.live();
+        int standing = houses;
+        for (int h = 0; h < belt.houses; h++) {
+            if (bitOf(houses, h) == 0) {
+                continue;
+            }
+            int before = belt.bears[h];
+            belt.bears[h] = belt.bearsEarthed(h);
+            if (weakestBy(live, v) != NONE) {
+                standing &= ~(1 << h);
+            }
+            belt.bears[h] = before;
+        }
+        return standing;
+    }
+
+    private int lowest(int houses) {
+        for (int h = 0; h < belt.houses; h++) {
+            if (bitOf(houses, h) == 1) {
+                return h;
+            }
+        }
+        return NONE;
+    }
+
     private int rings() {
         int live = belt.live();
         int towns = 0;
@@ -899,7 +938,7 @@ public final class CopperTies {
             return !atDigit();
         }
 
-        boolean atDigit() {
+        private boolean atDigit() {
             return at < length && signs[at] >= '0' && signs[at] <= '9';
         }
     }
@@ -946,7 +985,7 @@ public final class CopperTies {
             return tape.sign() == Tape.ENDED && isWhole();
         }
 
-        boolean readsClause() {
+        private boolean readsClause() {
             int letter = tape.sign();
             if (letter == 's' && !ruled) {
                 tape.at++;
@@ -966,13 +1005,13 @@ public final class CopperTies {
             return false;
         }
 
-        void setWithout(int[] row, int base, int first, int end) {
+        private void setWithout(int[] row, int base, int first, int end) {
             for (int i = first; i < end; i++) {
                 row[base + i - first] = WITHOUT[i];
             }
         }
 
-        boolean readsItems(int[] row, int base, int first, int end) {
+        private boolean readsItems(int[] row, int base, int first, int end) {
             setWithout(row, base, first, end);
             int there = 0;
             for (int i = first; i <= end; i++) {
@@ -993,7 +1032,7 @@ public final class CopperTies {
             return true;
         }
 
-        int itemAt(int first, int end) {
+        private int itemAt(int first, int end) {
             int letter = tape.sign();
             for (int i = first; i < end; i++) {
                 if (LETTERS[i] == letter) {
@@ -1003,7 +1042,7 @@ public final class CopperTies {
             return NONE;
         }
 
-        boolean readsNumberOf(int item) {
+        private boolean readsNumberOf(int item) {
             if (!tape.takesNumber(2)) {
                 return false;
             }
@@ -1015,7 +1054,7 @@ public final class CopperTies {
             return true;
         }
 
-        boolean isWhole() {
+        private boolean isWhole() {
             if (houses < 2) {
                 return false;
             }
@@ -1027,7 +1066,7 @@ public final class CopperTies {
             return true;
         }
 
-        boolean isWireSound(int w) {
+        private boolean isWireSound(int w) {
             int a = wiresTold[w * WIRE_ROW];
             int b = wiresTold[w * WIRE_ROW + 1];
             if (a >= houses || b >= houses || a == b || isChapel(a) && isChapel(b)) {
@@ -1043,7 +1082,7 @@ public final class CopperTies {
             return true;
         }
 
-        boolean isChapel(int house) {
+        private boolean isChapel(int house) {
             return housesTold[house * HOUSE_ROW + 3] == CHAPEL;
         }
     }
@@ -1067,6 +1106,8 @@ public final class CopperTies {
         static final int ANSWER = 13;
         /** Each sign gives one step at most: a clause's y pays for its ANSWER. */
         static final int STEPS_MOST = TAPE_MOST;
+        /** The step for the letter l. */
+        static final int BEARS = LETTER | 2 << STEP_BITS;
         private static final int NESTED_MOST = 6;
         private static final char[] LETTERS = {'p', 't', 'l', 'k', 'n', 'd'};
 
@@ -1092,7 +1133,7 @@ public final class CopperTies {
             return tape.sign() == Tape.ENDED;
         }
 
-        boolean readsClause() {
+        private boolean readsClause() {
             if (!tape.takes('y') || !tape.takes(':')) {
                 return false;
             }
@@ -1123,7 +1164,7 @@ public final class CopperTies {
         }
 
         /** Begun: the first SUM of the first UNIT has been read already. */
-        boolean readsCondition(int nested, boolean begun) {
+        private boolean readsCondition(int nested, boolean begun) {
             if (!readsTruth(nested, begun)) {
                 return false;
             }
@@ -1136,7 +1177,7 @@ public final class CopperTies {
             return true;
         }
 
-        boolean readsTruth(int nested, boolean begun) {
+        private boolean readsTruth(int nested, boolean begun) {
             if (!readsUnit(nested, begun)) {
                 return false;
             }
@@ -1149,7 +1190,7 @@ public final class CopperTies {
             return true;
         }
 
-        boolean readsUnit(int nested, boolean begun) {
+        private boolean readsUnit(int nested, boolean begun) {
             if (!begun) {
                 int sign = tape.sign();
                 if (sign == '!' || sign == '(') {
@@ -1171,7 +1212,7 @@ public final class CopperTies {
             return true;
         }
 
-        boolean readsNested(int nested, int sign) {
+        private boolean readsNested(int nested, int sign) {
             if (nested >= NESTED_MOST) {
                 return false;
             }
@@ -1186,7 +1227,7 @@ public final class CopperTies {
             return true;
         }
 
-        int comparison() {
+        private int comparison() {
             switch (tape.sign()) {
                 case '=':
                     return SAME;
@@ -1199,7 +1240,7 @@ public final class CopperTies {
             }
         }
 
-        boolean readsSum(int nested) {
+        private boolean readsSum(int nested) {
             if (!readsTerm(nested)) {
                 return false;
             }
@@ -1217,7 +1258,7 @@ public final class CopperTies {
             return true;
         }
 
-        boolean readsTerm(int nested) {
+        private boolean readsTerm(int nested) {
             if (!readsAtom(nested)) {
                 return false;
             }
@@ -1235,7 +1276,7 @@ public final class CopperTies {
             return true;
         }
 
-        boolean readsAtom(int nested) {
+        private boolean readsAtom(int nested) {
             int sign = tape.sign();
             if (sign == '[') {
                 if (nested >= NESTED_MOST) {
@@ -1258,7 +1299,7 @@ public final class CopperTies {
             return true;
         }
 
-        void put(int step, int value) {
+        private void put(int step, int value) {
             if (size < steps.length) {
                 steps[size] = step | value << STEP_BITS;
                 size++;
@@ -1288,6 +1329,16 @@ public final class CopperTies {
             sizes[told] = reader.size;
             told++;
             return told - 1;
+        }
+
+        /** Whether the LAW that holds has the letter l. */
+        boolean readBears() {
+            for (int i = 0; holding >= 0 && holding < told && i < sizes[holding]; i++) {
+                if (steps[holding * LawReader.STEPS_MOST + i] == LawReader.BEARS) {
+                    return true;
+                }
+            }
+            return false;
         }
 
         void tell(int p, int t, int l, int k, int n, int d) {
@@ -1329,14 +1380,14 @@ public final class CopperTies {
             return 0;
         }
 
-        void push(int x) {
+        private void push(int x) {
             if (top < stack.length) {
                 stack[top] = x;
                 top++;
             }
         }
 
-        int pop() {
+        private int pop() {
             if (top < 1) {
                 return 0;
             }
@@ -1345,30 +1396,37 @@ public final class CopperTies {
         }
 
         /** Both are within bounds themselves, so that no product goes round in a long. */
-        int join(int step, long left, long right) {
+        private static int join(int step, long left, long right) {
+            long x;
             switch (step) {
                 case LawReader.ADD:
-                    return held(left + right);
+                    x = left + right;
+                    break;
                 case LawReader.TAKE:
-                    return held(left - right);
+                    x = left - right;
+                    break;
                 case LawReader.TIMES:
-                    return held(left * right);
+                    x = left * right;
+                    break;
                 case LawReader.BY:
-                    return right == 0 ? 0 : (int) (left / right);
+                    x = right == 0 ? 0 : left / right;
+                    break;
                 case LawReader.SAME:
-                    return left == right ? 1 : 0;
+                    x = left == right ? 1 : 0;
+                    break;
                 case LawReader.LESS:
-                    return left < right ? 1 : 0;
+                    x = left < right ? 1 : 0;
+                    break;
                 case LawReader.MORE:
-                    return left > right ? 1 : 0;
+                    x = left > right ? 1 : 0;
+                    break;
                 case LawReader.AND:
-                    return left != 0 && right != 0 ? 1 : 0;
+                    x = left != 0 && right != 0 ? 1 : 0;
+                    break;
                 default:
-                    return left != 0 || right != 0 ? 1 : 0;
+                    x = left != 0 || right != 0 ? 1 : 0;
+                    break;
             }
-        }
-
-        static int held(long x) {
             if (x > WITHIN) {
                 return WITHIN;
             }
@@ -1389,6 +1447,8 @@ public final class CopperTies {
         final int[] from = new int[WIRE_SLOTS];
         final int[] to = new int[WIRE_SLOTS];
         final int[] salt = new int[WIRE_SLOTS];
+        /** By house, the wires that go to it, as bits: strokes ask for them most of all. */
+        private final int[] touches = new int[HOUSES_MOST];
         int houses;
         int wires;
         int cutBits;
@@ -1417,6 +1477,7 @@ public final class CopperTies {
                 to[w] = told.wiresTold[base + 1];
                 salt[w] = told.wiresTold[base + 2];
             }
+            touchAnew();
         }
 
         void write(int[] rows, int base) {
@@ -1452,6 +1513,7 @@ public final class CopperTies {
             wires = rows[at];
             copper = rows[at + 1];
             summer = rows[at + 2];
+            touchAnew();
         }
 
         int uncut() {
@@ -1469,13 +1531,15 @@ public final class CopperTies {
         }
 
         int touching(int bits, int house) {
-            int touching = 0;
-            for (int w = 0; w < WIRE_SLOTS; w++) {
-                if (from[w] == house || to[w] == house) {
-                    touching |= 1 << w;
-                }
+            return bits & touches[house];
+        }
+
+        private void touchAnew() {
+            Arrays.fill(touches, 0);
+            for (int w = 0; w < wires; w++) {
+                touches[from[w]] |= 1 << w;
+                touches[to[w]] |= 1 << w;
             }
-            return bits & touching;
         }
 
         int reach(int bits, int house) {
@@ -1516,6 +1580,11 @@ public final class CopperTies {
             to[wires] = other;
             salt[wires] = 0;
             cutBits &= ~(1 << wires);
+            for (int h = 0; h < houses; h++) {
+                touches[h] &= ~(1 << wires);
+            }
+            touches[one] |= 1 << wires;
+            touches[other] |= 1 << wires;
         }
 
         void addCopper(int more) {
@@ -1615,7 +1684,7 @@ public final class CopperTies {
             return burningBits();
         }
 
-        void send(int house, int wire, int part) {
+        private void send(int house, int wire, int part) {
             if (sent < PARTS_MOST) {
                 comesTo[sent] = house;
                 comesBy[sent] = wire;
@@ -1624,7 +1693,7 @@ public final class CopperTies {
             }
         }
 
-        void arrive(int live, int house, int wire, int p) {
+        private void arrive(int live, int house, int wire, int p) {
             if (bitOf(visited, house) == 1) {
                 kept[house] += p;
                 return;
@@ -1650,8 +1719,9 @@ public final class CopperTies {
             pass(house, onward, each);
         }
 
-        void pass(int house, int onward, int each) {
-            for (int w = 0; w < WIRE_SLOTS; w++) {
+        private void pass(int house, int onward, int each) {
+            // up to the one that is only thought of, too
+            for (int w = 0; w <= belt.wires && w < WIRE_SLOTS; w++) {
                 if (bitOf(onward, w) == 0) {
                     continue;
                 }
@@ -1663,7 +1733,7 @@ public final class CopperTies {
             }
         }
 
-        int burningBits() {
+        private int burningBits() {
             int bits = 0;
             for (int h = 0; h < belt.houses; h++) {
                 if (kept[h] > belt.bears[h]) {
@@ -1796,7 +1866,7 @@ public final class CopperTies {
             return leastSum < NO_SUM;
         }
 
-        void pairFrom(int house, int taken, boolean mayStay, int sum) {
+        private void pairFrom(int house, int taken, boolean mayStay, int sum) {
             if (house >= belt.houses) {
                 keepLeast(sum);
                 return;
@@ -1819,7 +1889,7 @@ public final class CopperTies {
             }
         }
 
-        void keepLeast(int sum) {
+        private void keepLeast(int sum) {
             if (sum >= leastSum) {
                 return;
             }
@@ -1860,7 +1930,7 @@ public final class CopperTies {
             }
         }
 
-        void add(int bits) {
+        private void add(int bits) {
             if (size < row.length) {
                 row[size] = bits;
                 size++;
