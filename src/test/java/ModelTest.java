@@ -55,8 +55,25 @@ public final class ModelTest {
         if (run % 10 != 0) {
             newBelt(run % 4 == 0);
         }
+        if (run % 5 == 1) {
+            crowd();
+        }
         for (int i = 0; i < CALLS && Check.wrong < 5; i++) {
             call(pick(2, 46));
+        }
+    }
+
+    /** Eight houses with all wires that there can be. */
+    private void crowd() {
+        same("end(0)", real.end(0), model.end(0));
+        StringBuilder b = new StringBuilder("sc99");
+        for (int h = 0; h < 8; h++) {
+            b.append(";hx").append(pick(0, 5)).append('l').append(pick(5, 99)).append('t').append(pick(1, 9));
+        }
+        tape(b.toString());
+        same("text(0)", real.text(0), model.text(0));
+        for (int i = 0; i < 60; i++) {
+            actOrShow(10);
         }
     }
 

@@ -28,6 +28,7 @@ public final class PromiseTest {
         coupled();
         layAndCuts();
         borne();
+        crowded();
         nets();
         games();
         leaving();
@@ -740,6 +741,38 @@ public final class PromiseTest {
         CopperTies sly = Check.belt("hl30;hl5;w", "y:l>20?p/2");
         due("sly stands", sly.stands(0), 10);
         due("sly weakest", sly.stands(1), 0);
+        // EARTHED, 1 keeps all of 20 and less: 40 stand; 0, EARTHED, bears 30 of what 1 lets go
+        due("what it bears is in the law", Check.belt("hl20;hl10;w", "y:l*2-20").earth(), 1);
+    }
+
+    /** Eight houses and sixteen wires: whatever two are cut, one comes from each to each. */
+    private static void crowded() {
+        CopperTies x = Check.belt("sc99;hl1;hl1;hl1;hl1;hl1;hl1;hl1;hl1;wa0b1;wa1b2;wa2b3;wa3b4;wa4b5;wa5b6;wa6b7;wa7b0");
+        for (int h = 0; h < 8; h++) {
+            due("lay", x.lay(h, (h + 2) % 8), 8 + h);
+        }
+        due("a seventeenth", x.lay(0, 4), -1);
+        for (int struck = 0; struck < 8; struck++) {
+            int sum = 0;
+            for (int h = 0; h < 8; h++) {
+                sum += x.keeps(struck, 999, h);
+            }
+            due("nothing is lost", sum, 999);
+        }
+        due("all burn", x.burning(0, 999), 255);
+        due("all burn anyway", x.parting(0, 999, 1), 8);
+        due("so none is cut", x.parting(0, 999, 0), 0);
+        due("rings", x.net(0), 9);
+        due("no bridges", x.net(1), 0);
+        due("all pairs", x.who(2, -1), 120);
+        due("the last pair", x.who(2, 119), 49152);
+        due("played for a seventeenth", x.game(0, 4, 999, 1, 1, 0) < 0, true);
+        x.cut(15);
+        due("cut ones count, too", x.lay(0, 4), -1);
+        x.undo();
+        x.undo();
+        due("all burn by any wire more", x.marry(0, 999, 1), 8);
+        due("the least", x.marry(0, 999, 0), 3);
     }
 
     private static void nets() {
