@@ -734,6 +734,7 @@ public final class PromiseTest {
         due("99 and 8", wet.stands(0), 107);
         due("by either, the lowest", wet.stands(1), 0);
         due("no more than 99", wet.earth(), 0);
+        due("as much as it bears does not burn it", Check.belt("hl99;hl98").earth(), 1);
         due("no belt", new CopperTies().earth(), -1);
         due("no belt", new CopperTies().stands(0), -1);
         due("bears as before", x.house(3, 2), 12);
