@@ -14,6 +14,7 @@ public final class ActEdgeTest {
         burntAndBears();
         layTakesCopper();
         layBesideOthers();
+        layWhereOthersWere();
         layUpToSixteen();
         cutGivesCopper();
         scrapeTakesSalt();
@@ -33,6 +34,7 @@ public final class ActEdgeTest {
         decadesUndone();
         decadesInTheLog();
         imagesKeep();
+        imagesOfWires();
         imagesOfThisBelt();
         imagesOfALongLog();
         Check.finish();
@@ -177,6 +179,37 @@ public final class ActEdgeTest {
         due("lay(4, 0)", x.lay(4, 0), -1);
         due("lay(2, 2)", x.lay(2, 2), -1);
         due("status(0)", x.status(0), 3);
+    }
+
+    /** A WIRE that is LAID has nothing of one that had its number ahead of it. */
+    private static void layWhereOthersWere() {
+        CopperTies x = Check.belt("h;h;h;ws5;wb2s9;wa1b2s3");
+        x.cut(0);
+        Check.tape(x, "h;h;h");
+        x.text(0);
+        due("joined without salt", x.game(0, 1, 30, 1, 1, 0), 5);
+        due("lay", x.lay(1, 2), 0);
+        due("without salt", x.wire(0, 2), 0);
+        due("not cut", x.wire(0, 3), 0);
+        due("of house 0", x.house(0, 5), 0);
+        kept(x, 0, 30, 30, 0, 0);
+        kept(x, 1, 30, 0, 15, 15);
+        x.summers(4);
+        x.undo();
+        x.undo();
+        x.undo();
+        x.undo();
+        due("undone", x.undo(), 0);
+        due("lay", x.lay(0, 2), 0);
+        due("without salt", x.wire(0, 2), 0);
+        kept(x, 0, 30, 15, 0, 15);
+        kept(x, 1, 30, 0, 30, 0);
+    }
+
+    private static void kept(CopperTies x, int struck, int v, int... want) {
+        for (int h = 0; h < want.length; h++) {
+            due("keeps(" + struck + ", " + v + ", " + h + ")", x.keeps(struck, v, h), want[h]);
+        }
     }
 
     private static void layUpToSixteen() {
@@ -825,6 +858,28 @@ public final class ActEdgeTest {
         due("none goes by", last.summers(1), -1);
     }
 
+    /** WIRES are so again: those of the image, between the houses that they had. */
+    private static void imagesOfWires() {
+        CopperTies x = Check.belt("h;h;h;h;h;h;h;h");
+        due("lay", x.lay(7, 6), 0);
+        x.image();
+        x.undo();
+        due("another one of that number", x.lay(1, 2), 0);
+        kept(x, 1, 30, 0, 15, 15, 0, 0, 0, 0, 0);
+        x.back();
+        due("its houses", x.wire(0, 0), 7);
+        due("its houses", x.wire(0, 1), 6);
+        kept(x, 1, 30, 0, 30, 0, 0, 0, 0, 0, 0);
+        kept(x, 7, 30, 0, 0, 0, 0, 0, 0, 15, 15);
+        due("of house 1", x.house(1, 5), 0);
+        due("of house 6", x.house(6, 5), 1);
+        due("two more", x.lay(0, 5), 1);
+        due("two more", x.lay(5, 7), 2);
+        x.back();
+        due("one wire", x.count(1), 1);
+        due("of house 5", x.house(5, 5), 0);
+    }
+
     private static void imagesOfThisBelt() {
         CopperTies x = new CopperTies();
         due("image without a belt", x.image(), -1);
@@ -866,8 +921,11 @@ public final class ActEdgeTest {
         }
         x.back();
         due("60", x.count(13), 60);
-        due("the latest", x.log(0, 1), 61);
-        due("the first of sixty", x.log(59, 1), 2);
+        for (int i = 0; i < 60; i++) {
+            due("of an image, log(" + i + ", 0)", x.log(i, 0), 0);
+            due("of an image, log(" + i + ", 1)", x.log(i, 1), 61 - i);
+            due("of an image, log(" + i + ", 2)", x.log(i, 2), 0);
+        }
         due("log(60, 1)", x.log(60, 1), -1);
         x.strike(1, 88);
         due("60 still", x.count(13), 60);
@@ -876,5 +934,19 @@ public final class ActEdgeTest {
         x.undo();
         due("undone", x.log(0, 1), 61);
         due("the first of sixty again", x.log(59, 1), 2);
+        // each has its house, its v, and who burned
+        CopperTies y = Check.belt("hl3;hl5;hl99");
+        y.strike(1, 6);
+        y.strike(2, 7);
+        y.strike(0, 8);
+        y.image();
+        y.strike(2, 9);
+        y.back();
+        int[][] want = {{0, 8, 1}, {2, 7, 0}, {1, 6, 2}};
+        for (int i = 0; i < 3; i++) {
+            for (int what = 0; what < 3; what++) {
+                due("log(" + i + ", " + what + ")", y.log(i, what), want[i][what]);
+            }
+        }
     }
 }

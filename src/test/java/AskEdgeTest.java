@@ -135,6 +135,15 @@ public final class AskEdgeTest {
         due("3 of 3: nothing comes to 1", chain.lost(0, 3), 3);
         due("turned round: 2 and 3", chain.lost(2, 6), 5);
         kept(chain, "turned round", 2, 6, 1, 0, 0);
+        // of a part that is lost whole nothing comes: to 1 that by 2 is the first one
+        CopperTies first = Check.belt("h;h;h;h;ws8;wb2;wa2b1;wa1b3", "y:0");
+        kept(first, "8 are lost, 8 come by 2, 4 are lost", 0, 16, 0, 0, 0, 4);
+        due("8 and 4", first.lost(0, 16), 12);
+        // one more comes straight: it is the first one, too little for two wires; 9 come by 2 behind it
+        kept(first, "9 each: 1 comes straight", 0, 18, 0, 10, 0, 0);
+        // 2 come straight and go on to 2 and 3; 10 come by 2 behind them and stay
+        kept(first, "10 each: 2 come straight", 0, 20, 0, 10, 1, 1);
+        due("8 alone", first.lost(0, 20), 8);
         // a part of nothing loses nothing
         CopperTies two = Check.belt("h;h;h;ws5;wb2s5", "y:0");
         due("1 by 2 goes nowhere", two.lost(0, 1), 0);
@@ -266,6 +275,10 @@ public final class AskEdgeTest {
         due("none burns", best.marry(0, 80, 1), 0);
         due("one more: 41 go, 40 stay", best.marry(0, 81, 1), 1);
         due("the least of those that save 0", best.marry(0, 81, 0), 1);
+        // each is thought of by itself: by 12 it is 0 alone that burns
+        CopperTies apart = Check.belt("hl9;hl1;hl1");
+        due("apart from 0", apart.marry(0, 20, 0), 12);
+        due("0 burns", apart.marry(0, 20, 1), 1);
         // the wire stands behind all others: by 02 its part goes out behind that to 1, which so keeps
         // nothing; were it ahead, 1 would keep 20; by 03 it keeps 10
         CopperTies order = Check.belt("h;hl9;h;h;w;wa1b3;wa2b3", "y:0");
@@ -600,6 +613,12 @@ public final class AskEdgeTest {
         due("sure(-1)", one.sure(-1), NONE);
         due("best(3)", one.best(3), NONE);
         due("best(-1)", one.best(-1), NONE);
+        CopperTies three = Check.belt("h;h;h;w;wb2;wa1b2");
+        for (int k : new int[] {-1, 3, 4}) {
+            due("of three wires, who(" + k + ")", three.who(k, NONE), NONE);
+            due("of three wires, sure(" + k + ")", three.sure(k), NONE);
+            due("of three wires, best(" + k + ")", three.best(k), NONE);
+        }
         // live ones alone
         CopperTies some = Check.belt("h;h;h;h;w;wb2s9;wa1b2s8;wb3");
         some.cut(3);

@@ -30,6 +30,7 @@ public final class TextEdgeTest {
         blanksInLaws();
         lawBounds();
         lawDivides();
+        lawTruths();
         lawFirstThatHolds();
         lawsOneToFour();
         aBeltInsteadOfAnother();
@@ -543,6 +544,17 @@ public final class TextEdgeTest {
         faultAtMark(1, "y:p=1?^(1=1)");
         faultAtMark(1, "y:p=1?^!1=1");
         faultAtMark(1, "y:p=1?^?");
+        faultAtMark(1, "y:p=^?1");
+        faultAtMark(1, "y:p=1+^?1");
+        faultAtMark(1, "y:p=1|^?1");
+        faultAtMark(1, "y:p=1&^?1");
+        faultAtMark(1, "y:p=1&p^?1");
+        faultAtMark(1, "y:!^?1");
+        faultAtMark(1, "y:(p=1|^)?1");
+        faultAtMark(1, "y:(p=1&^)?1");
+        faultAtMark(1, "y:(p=^)?1");
+        faultAtMark(1, "y:[p+^]");
+        faultAtMark(1, "y:[p*^]");
         // behind ! or ( it has a CONDITION
         faultAtMark(1, "y:!p^;");
         faultAtMark(1, "y:!p+1^;");
@@ -686,6 +698,35 @@ public final class TextEdgeTest {
         worth("y:9-5-3", 99, 1);
     }
 
+    private static void lawTruths() {
+        String[] truth = {"1=2", "1=1"};
+        for (int a = 0; a < 2; a++) {
+            for (int b = 0; b < 2; b++) {
+                String left = truth[a];
+                String right = truth[b];
+                holds(left + "|" + right, a + b > 0);
+                holds(left + "&" + right, a + b == 2);
+                holds("(" + left + "|" + right + ")", a + b > 0);
+                holds("!(" + left + "&" + right + ")", a + b < 2);
+                holds("!" + left + "&" + right, a == 0 && b == 1);
+                holds("!" + left + "|" + right, a == 0 || b == 1);
+                for (int c = 0; c < 2; c++) {
+                    String last = truth[c];
+                    // & binds more than |
+                    holds(left + "|" + right + "&" + last, a == 1 || b + c == 2);
+                    holds(left + "&" + right + "|" + last, a + b == 2 || c == 1);
+                    holds(left + "&(" + right + "|" + last + ")", a == 1 && b + c > 0);
+                    holds(left + "|" + right + "|" + last, a + b + c > 0);
+                    holds(left + "&" + right + "&" + last, a + b + c == 3);
+                }
+            }
+        }
+    }
+
+    private static void holds(String condition, boolean is) {
+        worth("y:" + condition + "?7", 99, is ? 7 : 0);
+    }
+
     private static void lawFirstThatHolds() {
         worth("y:1=2?5", 99, 0);
         worth("y:1=2?5;y:1>2?6", 99, 0);
@@ -747,7 +788,11 @@ public final class TextEdgeTest {
         CopperTies x = Check.belt("sc50d4;hl9;hl9;h;w;wa1b2", "y:2");
         x.set(0, 9);
         x.set(1, 8);
-        x.strike(0, 99);
+        // 2, 2, and 95 at 2; then 2, 95 at 1; then 95 at 0
+        due("2 burns", x.strike(0, 99), 4);
+        x.cut(1);
+        due("1 burns", x.strike(0, 99), 2);
+        due("0 burns", x.strike(1, 99), 1);
         x.lay(0, 2);
         x.cut(0);
         x.summers(3);
@@ -768,8 +813,10 @@ public final class TextEdgeTest {
         for (int i = 0; i < 5; i++) {
             due("STATUS stays", x.status(i), status[i]);
         }
-        due("BURNT", x.house(0, 4), 0);
-        due("BEARS", x.house(0, 2), 9);
+        for (int h = 0; h < 3; h++) {
+            due("BURNT", x.house(h, 4), 0);
+            due("BEARS", x.house(h, 2), h < 2 ? 9 : 20);
+        }
         due("not CUT", x.wire(0, 3), 0);
         due("SALT", x.wire(1, 2), 0);
         due("no such wire", x.wire(2, 0), -1);
