@@ -12,6 +12,7 @@ public final class AskEdgeTest {
         strokesLeaveOver();
         strokesThroughSalt();
         strokesInOrder();
+        strokesOfSixteenWires();
         couplesOfTwoAndEight();
         couplesOfChapels();
         couplesAlike();
@@ -19,8 +20,11 @@ public final class AskEdgeTest {
         marryWhom();
         partingOfNone();
         partingOfTwoAtMost();
+        allEightBurn();
         standsFirst();
         earthUpTo99();
+        earthJustSo();
+        earthByWhatItBears();
         singlesAndTowns();
         ringsAndBridges();
         gamesAtTheirEdges();
@@ -29,6 +33,7 @@ public final class AskEdgeTest {
         leavesForLess();
         scorchedTen();
         whoOfFew();
+        whoBySuchOnes();
         whoOfMany();
         lookBy50();
         lookOfSeveral();
@@ -175,6 +180,35 @@ public final class AskEdgeTest {
         kept(back, "struck in the ring", 2, 30, 7, 16, 0, 7);
     }
 
+    private static final String RING_OF_EIGHT = "w;wa1b2;wa2b3;wa3b4;wa4b5;wa5b6;wa6b7;wa7b0";
+
+    /** Eight houses that bear so much, each with its neighbours and theirs: sixteen wires. */
+    private static CopperTies crowd(int bears) {
+        CopperTies x = Check.belt("sc99;" + ("hl" + bears + ";").repeat(8) + RING_OF_EIGHT);
+        for (int h = 0; h < 8; h++) {
+            due("lay", x.lay(h, (h + 2) % 8), 8 + h);
+        }
+        return x;
+    }
+
+    private static void strokesOfSixteenWires() {
+        // nothing is lost on the way but by salt, however many parts there are
+        CopperTies x = crowd(20);
+        for (int summer = 0; summer <= 9; summer++) {
+            for (int struck = 0; struck < 8; struck++) {
+                for (int v : new int[] {1, 4, 5, 99, 998, 999}) {
+                    int all = x.lost(struck, v);
+                    for (int h = 0; h < 8; h++) {
+                        all += x.keeps(struck, v, h);
+                    }
+                    due("kept and lost of " + v + " at " + struck + " by salt " + summer, all, v);
+                }
+            }
+            x.summers(1);
+        }
+        due("none is live", x.keeps(5, 999, 5), 999);
+    }
+
     // ---- couples, marriages, partings
 
     private static void couplesOfTwoAndEight() {
@@ -279,11 +313,23 @@ public final class AskEdgeTest {
         CopperTies apart = Check.belt("hl9;hl1;hl1");
         due("apart from 0", apart.marry(0, 20, 0), 12);
         due("0 burns", apart.marry(0, 20, 1), 1);
+        // beside wires that there are, too: 3 and 4 would burn with 0
+        CopperTies beside = Check.belt("hl9;hl1;hl1;hl1;hl1;wa3b4");
+        due("apart from 0", beside.marry(0, 20, 0), 12);
+        due("0 burns", beside.marry(0, 20, 1), 1);
+        due("0 and two more with 3", wouldBurn("hl9;hl1;hl1;hl1;hl1;wa3b4", 0, 3, 20), 25);
         // the wire stands behind all others: by 02 its part goes out behind that to 1, which so keeps
         // nothing; were it ahead, 1 would keep 20; by 03 it keeps 10
         CopperTies order = Check.belt("h;hl9;h;h;w;wa1b3;wa2b3", "y:0");
         due("its part goes last", order.marry(0, 40, 0), 2);
         due("none burns", order.marry(0, 40, 1), 0);
+    }
+
+    /** Who burns by a stroke at the one, once a wire to the other is laid by hand. */
+    private static int wouldBurn(String text, int one, int other, int v) {
+        CopperTies x = Check.belt(text);
+        x.lay(one, other);
+        return x.burning(one, v);
     }
 
     private static void partingOfNone() {
@@ -325,6 +371,19 @@ public final class AskEdgeTest {
         CopperTies chain = Check.belt("hl99;hl99;hl1;w;wa1b2");
         due("of several the least bits", chain.parting(0, 40, 0), 1);
         due("none burns", chain.parting(0, 40, 1), 0);
+    }
+
+    private static void allEightBurn() {
+        // half of it goes on from house to house: 8 come to the last one
+        String line = "hl1;hl1;hl1;hl1;hl1;hl1;hl1;hl1;w;wa1b2;wa2b3;wa3b4;wa4b5;wa5b6;wa6b7";
+        due("all", Check.belt(line).burning(0, 999), 255);
+        due("whatever is laid", Check.belt(line).marry(0, 999, 1), 8);
+        due("the least", Check.belt(line).marry(0, 999, 0), 2);
+        CopperTies crowd = crowd(1);
+        due("all", crowd.burning(3, 999), 255);
+        due("whatever two are cut", crowd.parting(3, 999, 1), 8);
+        due("none, then", crowd.parting(3, 999, 0), 0);
+        due("none can be laid", crowd.marry(3, 999, 1), NONE);
     }
 
     // ---- what all can bear
@@ -370,6 +429,52 @@ public final class AskEdgeTest {
         due("no belt", new CopperTies().earth(), NONE);
         due("as by hand", standsEarthed("hl7;hl12;hl9;w;wa1b2s3"), Check.belt("hl7;hl12;hl9;w;wa1b2s3").earth());
         due("as by hand", standsEarthed("sd4;hl9;hl9;hl30;w;wb2;wa1b2"), Check.belt("sd4;hl9;hl9;hl30;w;wb2;wa1b2").earth());
+    }
+
+    private static CopperTies byLaw(String text, String... laws) {
+        CopperTies x = Check.belt(text);
+        for (String law : laws) {
+            Check.tape(x, law);
+            due("the law " + law, x.law(x.text(1)), true);
+        }
+        return x;
+    }
+
+    private static void earthJustSo() {
+        due("the eighth", Check.belt("hl9;hl9;hl9;hl9;hl9;hl9;hl9;hl5").earth(), 7);
+        due("all eight alike", Check.belt("hl9;hl9;hl9;hl9;hl9;hl9;hl9;hl9").earth(), 0);
+        // 1 sends all to 0 below 20 and keeps all from 20 on: EARTHED, 20 is just what it bears
+        String law = "y:t=9?p;y:p<20?0;y:p";
+        due("19 as it is", byLaw("ht9l99;hl10;w", law).stands(0), 19);
+        due("20 by 1", byLaw("ht9l99;hl10;w", law).earth(), 1);
+        due("19 by either", byLaw("ht9l99;hl9;w", law).earth(), 0);
+        // the same where the law looks at what a house bears
+        String looking = "y:t=9?p;y:p<20?l-l;y:p";
+        due("20 by 1, looked at", byLaw("ht9l99;hl10;w", looking).earth(), 1);
+        due("19 by either, looked at", byLaw("ht9l99;hl9;w", looking).earth(), 0);
+    }
+
+    /** A house that is EARTHED bears more, so a LAW with l has it keep otherwise. */
+    private static void earthByWhatItBears() {
+        // 0 sends all while it bears 10; EARTHED, it would keep all, and burn by 21
+        String law = "y:t=9?p;y:l>15?p;y:0";
+        CopperTies x = byLaw("hl10;ht9l99;w", law);
+        due("99 as it is", x.stands(0), 99);
+        due("20 by 0, 99 by 1", x.earth(), 1);
+        due("bears as before", x.house(0, 2), 10);
+        due("99 still", x.stands(0), 99);
+        due("no other letter", byLaw("hl10;hl99;w", "y:l>15?p;y:0").earth(), 1);
+        due("in a later clause", byLaw("hl10;ht9l99;w", "y:t=9?p;y:p=1?0;y:15<l?p").earth(), 1);
+        // the law that holds is looked at, not another one
+        due("the second law", byLaw("hl10;ht9l99;w", "y:0", law).earth(), 1);
+        CopperTies none = byLaw("hl10;ht9l99;w", law);
+        none.law(NONE);
+        due("no law: 0 keeps half", none.earth(), 0);
+        // 99 at most: 1 keeps all, but with more than 99 it would send half of it to 2, which bears 1
+        String most = "y:t=9?p;y:t=8?0;y:l>99?0;y:p";
+        due("95 as it is", byLaw("ht9l99;hl95;ht8l1;wa1b2;w", most).stands(0), 95);
+        due("99 at most", byLaw("ht9l99;hl95;ht8l1;wa1b2;w", most).earth(), 1);
+        due("eight, the last one", byLaw("hl9;hl9;hl9;hl9;hl9;hl9;hl9;hl5;w", "y:l").earth(), 7);
     }
 
     /** Earths each house by hand and looks how far all stand. */
@@ -426,6 +531,11 @@ public final class AskEdgeTest {
         due("full of salt there is no ring", Check.belt("h;h;h;w;wb2;wa1b2s9").net(0), 0);
         due("with 8 there is", Check.belt("h;h;h;w;wb2;wa1b2s8").net(0), 1);
         due("a ring has no bridge", Check.belt("h;h;h;w;wb2;wa1b2s8").net(1), 0);
+        due("seven bridges", Check.belt("h;h;h;h;h;h;h;h;w;wa1b2;wa2b3;wa3b4;wa4b5;wa5b6;wa6b7").net(1), 127);
+        due("and no ring", Check.belt("h;h;h;h;h;h;h;h;w;wa1b2;wa2b3;wa3b4;wa4b5;wa5b6;wa6b7").net(0), 0);
+        due("one ring of eight", Check.belt("h;h;h;h;h;h;h;h;" + RING_OF_EIGHT).net(0), 1);
+        due("and no bridge", Check.belt("h;h;h;h;h;h;h;h;" + RING_OF_EIGHT).net(1), 0);
+        due("16 wires, 7 needed", crowd(9).net(0), 9);
         // two rings, a bridge between them
         CopperTies two = Check.belt("h;h;h;h;h;h;w;wb2;wa1b2;wa2b3;wa3b4;wa4b5;wa3b5");
         due("two rings", two.net(0), 2);
@@ -543,6 +653,8 @@ public final class AskEdgeTest {
         // cut wire 0 (0 - 2): of strokes at 0 and 2: 0 keeps 0 by its own, and 0 by 2's: less than 30
         // cut wire 1 (0 - 1): the same with 1
         due("either", x.leaves(30), 3);
+        // whichever of its houses is told first
+        due("either, by the second one", Check.belt("h;h;h;wa2b0;wa1b0", "y:n=2?p;y:0").leaves(30), 3);
         x.summers(9);
         due("none is live", x.leaves(30), 0);
         x.scrape(1);
@@ -634,6 +746,52 @@ public final class AskEdgeTest {
         }
     }
 
+    /** Two couples that send all to one another; each is told by its own belt what scorched. */
+    private static CopperTies couplesThat(int struck, int v, int house, boolean is) {
+        CopperTies x = Check.belt("hl5;hl5;hl5;hl5;w;wa2b3", "y:0");
+        due("told", x.scorched(struck, v, house, is), 1);
+        return x;
+    }
+
+    private static void whoBySuchOnes() {
+        whoIs(couplesThat(0, 10, 1, true), 1, 2);
+        whoIs(couplesThat(0, 10, 1, false), 1, 1);
+        // where it struck, what it did
+        whoIs(couplesThat(2, 10, 3, true), 1, 1);
+        whoIs(couplesThat(2, 10, 3, false), 1, 2);
+        whoIs(couplesThat(1, 10, 0, false), 1, 1);
+        // the struck one itself: cut off, it burns
+        whoIs(couplesThat(0, 10, 0, true), 1, 1);
+        whoIs(couplesThat(3, 10, 3, true), 1, 2);
+        // by how much: 5 are borne
+        whoIs(couplesThat(0, 5, 1, true), 1);
+        whoIs(couplesThat(0, 5, 1, false), 1, 1, 2);
+        whoIs(couplesThat(0, 6, 1, true), 1, 2);
+        // none cut, both cut
+        whoIs(couplesThat(0, 10, 1, true), 0, 0);
+        whoIs(couplesThat(0, 10, 1, false), 0);
+        whoIs(couplesThat(0, 10, 1, true), 2);
+        whoIs(couplesThat(0, 10, 1, false), 2, 3);
+        // all that is told must be so
+        CopperTies both = couplesThat(0, 10, 1, false);
+        both.scorched(2, 10, 3, true);
+        whoIs(both, 1, 1);
+        due("sure of it", both.sure(1), 1);
+        both.scorched(2, 10, 3, false);
+        whoIs(both, 1);
+        due("nothing fits", both.sure(1), NONE);
+        due("nothing fits", both.best(1), NONE);
+        // as it is now: earthed, 10 are borne, so that nobody can have burnt
+        CopperTies now = couplesThat(0, 10, 1, true);
+        now.ground(1);
+        whoIs(now, 1);
+        now.undo();
+        whoIs(now, 1, 2);
+        now.cut(1);
+        whoIs(now, 1);
+        whoIs(now, 0, 0);
+    }
+
     private static void whoOfMany() {
         CopperTies x = Check.belt("sc99;h;h;h;h;h;h;h;h;w;wa1b2;wa2b3;wa3b4;wa4b5;wa5b6;wa6b7;wa7b0");
         for (int h = 0; h < 8; h++) {
@@ -658,6 +816,7 @@ public final class AskEdgeTest {
         due("by 50 at 2", Check.belt("hl50;hl50;hl49;hl49;w;wa2b3").best(1), 2);
         due("all alike: the lowest", Check.belt("hl50;hl50;hl50;hl50;w;wa2b3").best(1), 0);
         due("all burn: the lowest", Check.belt("hl1;hl1;hl1;hl1;w;wa2b3").best(1), 0);
+        due("at the eighth", Check.belt("hl50;hl50;hl50;hl50;hl50;hl50;hl50;hl49;w;wa6b7").best(1), 7);
         // anybody: struck at 0 it is 1 that burns
         due("another burns", Check.belt("hl99;hl5;hl99;hl99;w;wa2b3", "y:0").best(1), 0);
     }
@@ -781,6 +940,11 @@ public final class AskEdgeTest {
         due("tallest of alike ones", Check.belt("h;h;h").most(0), 0);
         due("tallest", Check.belt("ht8;ht9;ht9").most(0), 1);
         due("tallest, the last", Check.belt("ht8;ht8;ht9").most(0), 2);
+        due("tallest of eight", Check.belt("h;h;h;h;h;h;h;ht4").most(0), 7);
+        CopperTies eighth = Check.belt("h;h;h;h;h;h;h;hl1");
+        eighth.strike(7, 2);
+        due("blue of eight", eighth.most(1), 7);
+        due("last of sixteen", crowd(9).most(2), 0);
         CopperTies x = Check.belt("hl1;hl1;hl1;ws8;wa1b2s8;wb2s9");
         due("blue where none has burnt", x.most(1), 0);
         due("last of several", x.most(2), 0);

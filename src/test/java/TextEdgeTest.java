@@ -31,6 +31,7 @@ public final class TextEdgeTest {
         lawBounds();
         lawDivides();
         lawTruths();
+        lawNegations();
         lawFirstThatHolds();
         lawsOneToFour();
         aBeltInsteadOfAnother();
@@ -598,6 +599,15 @@ public final class TextEdgeTest {
         faultAtMark(1, "y:!(!(!(^!1=1)))?1");
         faultAtMark(1, "y:!(!(!(^(1=1))))?1");
         faultAtMark(1, "y:!(!(!(^[1]=1)))?1");
+        // behind ? and in a later clause as ahead of it
+        sound(1, "y:1=1?[[[[[[1]]]]]]");
+        faultAtMark(1, "y:1=1?[[[[[[^[1]]]]]]]");
+        faultAtMark(1, "y:1;y:[[[[[[^[1]]]]]]]");
+        faultAtMark(1, "y:1;y:((((((^(1=1)))))))?1");
+        faultAtMark(1, "y:1=1&!!!!!!^!1=1?1");
+        faultAtMark(1, "y:1=1|((((((^(1=1)))))))?1");
+        faultAtMark(1, "y:1+[[[[[[^[1]]]]]]]");
+        faultAtMark(1, "y:1*[[[[[[^[1]]]]]]]");
         // not within one another, as many as there is room for
         sound(1, "y:[1]+[1]+[1]+[1]+[1]+[1]+[1]+[1]");
         sound(1, "y:!1=1&!1=1&!1=1&!1=1&!1=1&!1=1&!1=1&!1=1?1");
@@ -708,6 +718,7 @@ public final class TextEdgeTest {
                 holds(left + "&" + right, a + b == 2);
                 holds("(" + left + "|" + right + ")", a + b > 0);
                 holds("!(" + left + "&" + right + ")", a + b < 2);
+                holds("!(" + left + "|" + right + ")", a + b == 0);
                 holds("!" + left + "&" + right, a == 0 && b == 1);
                 holds("!" + left + "|" + right, a == 0 || b == 1);
                 for (int c = 0; c < 2; c++) {
@@ -721,6 +732,26 @@ public final class TextEdgeTest {
                 }
             }
         }
+    }
+
+    private static void lawNegations() {
+        for (int a = 0; a < 3; a++) {
+            for (int b = 0; b < 3; b++) {
+                holds(a + "<" + b, a < b);
+                holds(a + ">" + b, a > b);
+                holds(a + "=" + b, a == b);
+                holds("!" + a + "<" + b, a >= b);
+                holds("!" + a + ">" + b, a <= b);
+                holds("!" + a + "=" + b, a != b);
+                holds("!!" + a + "<" + b, a < b);
+                holds("!(" + a + ">" + b + ")", a <= b);
+            }
+        }
+        // below 0, too
+        holds("0-2<0-1", true);
+        holds("0-1<0-2", false);
+        holds("0-1>0", false);
+        holds("0-1=1-2", true);
     }
 
     private static void holds(String condition, boolean is) {
