@@ -463,7 +463,9 @@ public final class AskEdgeTest {
         due("20 by 0, 99 by 1", x.earth(), 1);
         due("bears as before", x.house(0, 2), 10);
         due("99 still", x.stands(0), 99);
-        due("no other letter", byLaw("hl10;hl99;w", "y:l>15?p;y:0").earth(), 1);
+        // 10 by 11 is nothing, 20 by 11 is all: no other letter
+        due("no other letter", byLaw("hl10;hl99;w", "y:l/11*99").earth(), 1);
+        due("the first of all", byLaw("hl10;hl99;w", "y:l>15?p;y:0").earth(), 1);
         due("in a later clause", byLaw("hl10;ht9l99;w", "y:t=9?p;y:p=1?0;y:15<l?p").earth(), 1);
         // the law that holds is looked at, not another one
         due("the second law", byLaw("hl10;ht9l99;w", "y:0", law).earth(), 1);
