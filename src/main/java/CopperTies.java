@@ -1678,7 +1678,8 @@ public final class CopperTies {
             visited = 0;
             saltTook = 0;
             send(house, NONE, v);
-            for (int i = 0; i < sent; i++) {
+            // each arrival may send more, but never beyond the rows
+            for (int i = 0; i < sent && i < PARTS_MOST; i++) {
                 arrive(live, comesTo[i], comesBy[i], comes[i]);
             }
             return burningBits();
